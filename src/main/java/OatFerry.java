@@ -486,7 +486,7 @@ public final class OatFerry {
         }
 
         boolean isBlind(int h) {
-            return hasHorse(h) && (blinds >> h & 1) != 0;
+            return h >= 0 && h < MOST_HORSES && (blinds >> h & 1) != 0;
         }
 
         int dueMinutes() {
@@ -501,15 +501,20 @@ public final class OatFerry {
         }
 
         int mood(int a, int b) {
-            return hasHorse(a) && hasHorse(b) ? moods[a * MOST_HORSES + b] : 0;
+            boolean are = a >= 0 && a < MOST_HORSES && b >= 0 && b < MOST_HORSES;
+            return are ? moods[a * MOST_HORSES + b] : 0;
         }
 
         boolean hasPair(int a, int b) {
             return hasHorse(a) && hasHorse(b) && (pairs >> (a * MOST_HORSES + b) & 1L) != 0L;
         }
 
-        /** What a horse pulls between two others (NONE: nobody there), if its own PULL is the one given. */
-        int pullBetween(int h, int own, int before, int behind) {
+        /** What a horse pulls between two others (NONE: nobody there) by another PULL than told (0: by that). */
+        int pullBetween(int h, int other, int before, int behind) {
+            if (!hasHorse(h)) {
+                return 0;
+            }
+            int own = other == 0 ? pull[h] : other;
             return isBlind(h) ? own : Math.max(0, own + mood(h, before) + mood(h, behind));
         }
 
@@ -753,8 +758,7 @@ public final class OatFerry {
             numberFrom = next;
             int value = 0;
             for (int i = numberFrom; i < length && isFigure(i); i++) {
-                // Held down, so that five hundred figures stay a number out of every bound.
-                value = Math.min(9999, value * 10 + text[i] - '0');
+                value = value * 10 + text[i] - '0';
                 next = i + 1;
             }
             if (next - numberFrom > 3 || value < least || value > most) {
@@ -783,7 +787,7 @@ public final class OatFerry {
         }
 
         private void skipBlanks() {
-            for (int i = next; i < length && isSign(' '); i++) {
+            while (next < length && next < MOST_BYTES && text[next] == ' ') {
                 next++;
             }
         }
@@ -932,20 +936,16 @@ public final class OatFerry {
             who[from] = a;
             who[from + 1] = b;
             who[from + 2] = c;
-            pull[from] = ownPull(a, NONE, b);
-            pull[from + 1] = ownPull(b, a, c);
-            pull[from + 2] = ownPull(c, b, NONE);
+            pull[from] = boat.pullBetween(a, 0, NONE, b);
+            pull[from + 1] = boat.pullBetween(b, 0, a, c);
+            pull[from + 2] = boat.pullBetween(c, 0, b, NONE);
         }
 
-        private int ownPull(int h, int before, int behind) {
-            return boat.hasHorse(h) ? boat.pullBetween(h, boat.pull[h], before, behind) : 0;
-        }
-
-        /** The asked crew's horse h pulls as if its own PULL were another. */
-        void pullOtherwise(int h, int own) {
+        /** The asked crew's horse h pulls as if its PULL were another. */
+        void pullOtherwise(int h, int other) {
             int p = placeOf(h);
             if (p != NONE) {
-                pull[p] = boat.pullBetween(h, own, horseAt(ASKED, p - 1), horseAt(ASKED, p + 1));
+                pull[p] = boat.pullBetween(h, other, horseAt(ASKED, p - 1), horseAt(ASKED, p + 1));
             }
         }
 
@@ -980,13 +980,17 @@ public final class OatFerry {
         /**
          * Minutes until she is OVER, NONE: not within so many. The pace only changes when a horse goes
          * lame, so the minutes between are taken at once; it never rises, so she is never over sooner
-         * than by the pace of now, and without any she drifts back to where she began.
+         * than by the pace of now, and once it is not above 0 she never is.
          */
         int minutes(int crew, int[] strength, int push, int within) {
+            if (!isCrew(crew)) {
+                return NONE;
+            }
+            int from = crew * MOST_PLACES;
             int minute = 0;
             int come = 0;
             for (int lame = 0; lame <= MOST_PLACES; lame++) {
-                int pace = pace(crew, strength, minute) + push;
+                int pace = pace(from, strength, minute) + push;
                 if (pace <= 0) {
                     return NONE;
                 }
@@ -994,7 +998,7 @@ public final class OatFerry {
                 if (over > within) {
                     return NONE;
                 }
-                int until = nextLame(crew, strength, minute);
+                int until = nextLame(from, strength, minute);
                 if (over <= until) {
                     return over;
                 }
@@ -1004,8 +1008,7 @@ public final class OatFerry {
             return NONE;
         }
 
-        private int pace(int crew, int[] strength, int minute) {
-            int from = isCrew(crew) ? crew * MOST_PLACES : 0;
+        private int pace(int from, int[] strength, int minute) {
             int standing = 0;
             int together = 0;
             int least = 0;
@@ -1022,8 +1025,7 @@ public final class OatFerry {
         }
 
         /** The minute behind which the next horse is lame; far off, if none will be. */
-        private int nextLame(int crew, int[] strength, int minute) {
-            int from = isCrew(crew) ? crew * MOST_PLACES : 0;
+        private int nextLame(int from, int[] strength, int minute) {
             int until = MOST_MINUTES;
             for (int p = from; p < from + MOST_PLACES; p++) {
                 int h = who[p];
@@ -1036,7 +1038,10 @@ public final class OatFerry {
 
         /** A horse eats as long as it has strength to walk. */
         int oats(int crew, int[] strength, int minutes) {
-            int from = isCrew(crew) ? crew * MOST_PLACES : 0;
+            if (!isCrew(crew)) {
+                return 0;
+            }
+            int from = crew * MOST_PLACES;
             int eaten = 0;
             for (int p = from; p < from + MOST_PLACES; p++) {
                 int h = who[p];

@@ -6,6 +6,7 @@ public final class CrossingTest {
         putting();
         crossingBySum();
         onBehindALameOne();
+        oneByOneLame();
         crossingBySlowest();
         theLastMinute();
         theTideAlone();
@@ -72,6 +73,18 @@ public final class CrossingTest {
         Check.due("its oats", x.told(8), 50);
         Check.due("the lame one", x.horse(0, 4), 0);
         Check.due("the other", x.horse(1, 4), 45);
+    }
+
+    private static void oneByOneLame() {
+        OatFerry x = Check.ferry("belt sum 3 100;horse 10 2 0;horse 8 4 0;horse 6 6 0;tide 21;");
+        x.put(0, 0);
+        x.put(1, 1);
+        x.put(2, 2);
+        Check.due("25 twice, 15 twice, 7 twice, then 1 a minute: 94 in 6", x.trial(0, 0), 12);
+        Check.due("its oats: 20, 32, 36", x.trial(0, 1), 88);
+        Check.due("11 less: 14 twice, 4 twice, then back", x.trial(11, 0), -1);
+        Check.due("12 minutes", x.cross(0), 12);
+        Check.due("all are lame", x.told(12), 7);
     }
 
     private static void crossingBySlowest() {
@@ -177,6 +190,7 @@ public final class CrossingTest {
         OatFerry y = Check.ferry("belt sum 2 10;horse 30 200 0;horse 20 50 3;");
         y.seed(7);
         Check.due("40 days at once", y.drift(40), x.told(9));
+        Check.due("99 days", Check.ferry("belt sum 1 1;horse 30 200 60;").drift(99) < 0 ? -1 : 0, 0);
         Check.due("their oats", y.told(8), x.told(8));
         Check.due("their strengths", y.horse(0, 4), x.horse(0, 4));
     }

@@ -82,6 +82,9 @@ public final class FerryTest {
         bad("tide 1;", 1, 0);
         bad("  horse 1 1 1;", 1, 2);
         bad("beltsum 1 1;", 1, 0);
+        bad("xelt sum 1 1;", 1, 0);
+        bad("belt sumz 1 1;", 1, 5);
+        bad("belt asum 1 1;", 1, 5);
         bad("belt", 1, 4);
         bad("belt ", 1, 5);
         bad("belt 1", 1, 5);
@@ -147,6 +150,7 @@ public final class FerryTest {
         bad(two + "beside 0 0 0;", 4, 48);
         bad(two + "beside 1 0 0;beside 0 1 0;beside 1 0 0;", 4, 74);
         bad(two + "beside 1 0 0;beside 1 0 99;", 4, 61);
+        bad(two + "beside 0 1 0;beside 0 1 0;", 4, 61);
         StringBuilder many = new StringBuilder(BELT + "horse 1 1 1;".repeat(6));
         for (int i = 0; i < 12; i++) {
             many.append("beside ").append(i / 3).append(' ').append(i / 3 == i % 3 ? 5 : i % 3).append(" 5;");

@@ -176,28 +176,38 @@ public final class TriedTest {
         Check.due("by turns", rested.carts(-1), 4);
     }
 
+    /** Each change comes right behind an answer that it makes another one. */
     private static void whatIsKeptIsForgotten() {
-        OatFerry x = Check.ferry("belt sum 1 20;horse 10 5 5;cart 2;tide 20,29;due 9;");
+        OatFerry x = Check.ferry("belt sum 1 20;horse 10 5 5;cart 2;tide 20,29,20;due 9;");
         x.keep(0);
-        for (int round = 0; round < 2; round++) {
-            Check.due("fresh: twice", x.twice(0, 0, -1), 20 + 20);
-            Check.due("fresh: another load", x.twice(1, 0, -1), 30 + 20);
-            Check.due("fresh: carts", x.carts(-1), 1);
-            x.put(0, 0);
-            x.cross(8);
-            Check.due("tired: twice", x.twice(0, 0, -1), -1);
-            Check.due("an hour on: carts by the tide", x.carts(-1), 1);
-            x.rest(1);
-            Check.due("rested: twice", x.twice(0, 0, -1), 40);
-            x.cross(8);
-            x.rest(1);
-            x.cross(240);
-            Check.due("lame at a slack hour", x.told(12), 1);
-            x.goBack(0);
-        }
+        x.put(0, 0);
+        twiceAndCarts(x, "fresh", 40, 1);
+        Check.due("another load", x.twice(1, 0, -1), 50);
+        twiceAndCarts(x, "the load again", 40, 1);
+        x.cross(240);
+        twiceAndCarts(x, "lame, and the tide turns behind an hour", -1, 1);
+        x.rest(1);
+        twiceAndCarts(x, "rested", 40, 1);
+        x.cross(240);
+        twiceAndCarts(x, "lame at slack tide", -1, -1);
+        x.goBack(0);
+        twiceAndCarts(x, "gone back", 40, 1);
+        x.cross(240);
+        x.rest(2);
+        twiceAndCarts(x, "at hour 3", 40, 1);
+        x.seed(0);
+        x.drift(1);
+        Check.due("the draws made it stand and walk", x.told(12), 1);
+        Check.due("drifted: carts", x.carts(-1), x.told(11) > 2 ? 1 : -1);
+        x.goBack(0);
+        twiceAndCarts(x, "gone back", 40, 1);
         Check.feed(x, "belt sum 1 20;horse 9 200 0;cart 60;");
         x.ferry();
-        Check.due("another ferry: twice", x.twice(0, 0, -1), 54);
-        Check.due("another ferry: carts", x.carts(-1), -1);
+        twiceAndCarts(x, "another ferry", 54, -1);
+    }
+
+    private static void twiceAndCarts(OatFerry x, String when, int oats, int crossings) {
+        Check.due(when + ": twice", x.twice(0, 0, -1), oats);
+        Check.due(when + ": carts", x.carts(-1), crossings);
     }
 }
