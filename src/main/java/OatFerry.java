@@ -1218,28 +1218,24 @@ public final class OatFerry {
                 System.arraycopy(tried, 0, sets, 0, MOST_CARTS);
                 return;
             }
-            for (int set = 1; set <= left && canBeShorter(depth); set++) {
-                if ((set & left) == set && goesOver(depth, set, hour)) {
-                    tried[depth] = set;
-                    takeOver(depth + 1, left - set, hour + 1);
+            for (int set = 1; set <= left; set++) {
+                boolean shorter = crossings == NONE || depth + 1 < crossings;
+                if (shorter && (set & left) == set) {
+                    takeSet(depth, set, left, hour);
                 }
             }
         }
 
-        private boolean canBeShorter(int depth) {
-            return depth < MOST_CARTS && (crossings == NONE || depth + 1 < crossings);
-        }
-
-        private boolean goesOver(int depth, int set, int hour) {
+        private void takeSet(int depth, int set, int left, int hour) {
             if (depth < 0 || depth >= MOST_CARTS) {
-                return false;
+                return;
             }
             int push = boat.tideOf(hour) - weight(set);
-            if (!trials.findSoonest(strengths[depth], push, NONE)) {
-                return false;
+            if (trials.findSoonest(strengths[depth], push, NONE)) {
+                crews.tire(trials.crew, trials.minutes, strengths[depth], strengths[depth + 1]);
+                tried[depth] = set;
+                takeOver(depth + 1, left - set, hour + 1);
             }
-            crews.tire(trials.crew, trials.minutes, strengths[depth], strengths[depth + 1]);
-            return true;
         }
 
         private int weight(int set) {
