@@ -328,7 +328,7 @@ public final class OatFerry {
         if (!trials.findWait(now.strength, now.hour, load)) {
             return NONE;
         }
-        return what == 0 ? trials.wait : trials.waitMinutes;
+        return what == 0 ? trials.waitHours : trials.waitMinutes;
     }
 
     public int worth(int load, int h) {
@@ -1067,7 +1067,7 @@ public final class OatFerry {
         int crew;
         int minutes;
         int oats;
-        int wait;
+        int waitHours;
         int waitMinutes;
         final Boat boat;
         final Crews crews;
@@ -1115,16 +1115,16 @@ public final class OatFerry {
         }
 
         boolean findWait(int[] strength, int hour, int load) {
-            wait = NONE;
+            waitHours = NONE;
             for (int hours = 0; hours <= MOST_WAIT; hours++) {
                 boat.refresh(strength, hours, rested);
                 boolean lands = findSoonest(rested, boat.tideOf(hour + hours) - load, NONE);
-                if (lands && (wait == NONE || minutes < waitMinutes)) {
-                    wait = hours;
+                if (lands && (waitHours == NONE || minutes < waitMinutes)) {
+                    waitHours = hours;
                     waitMinutes = minutes;
                 }
             }
-            return wait != NONE;
+            return waitHours != NONE;
         }
     }
 
