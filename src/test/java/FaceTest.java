@@ -25,17 +25,13 @@ public final class FaceTest {
         Check.end();
     }
 
-    private static void yes(String what, boolean is) {
-        Check.due(what, is ? 1 : 0, 1);
-    }
-
     private static void constants() {
         Check.due("NONE", OatFerry.NONE, -1);
         Check.due("UNKNOWN", OatFerry.UNKNOWN, -1000000001);
         Check.due("OUTSIDE", OatFerry.OUTSIDE, -1000000002);
         Check.due("NOT", OatFerry.NOT, -1000000003);
         Check.due("FULL", OatFerry.FULL, -1000000004);
-        yes("five constants", OatFerry.class.getFields().length == 5);
+        Check.yes("five constants", OatFerry.class.getFields().length == 5);
     }
 
     private static void methods() {
@@ -49,28 +45,28 @@ public final class FaceTest {
                 }
                 seen.add(s.toString());
                 names.add(m.getName());
-                yes(s + " answers int", m.getReturnType() == int.class);
+                Check.yes(s + " answers int", m.getReturnType() == int.class);
             } else {
-                yes(m.getName() + " is private", Modifier.isPrivate(m.getModifiers()));
+                Check.yes(m.getName() + " is private", Modifier.isPrivate(m.getModifiers()));
             }
         }
-        yes("the face, no more and no less: " + seen, seen.equals(new TreeSet<>(FACE)));
+        Check.yes("the face, no more and no less: " + seen, seen.equals(new TreeSet<>(FACE)));
         for (Class<?> c : OatFerry.class.getDeclaredClasses()) {
             for (Method m : c.getDeclaredMethods()) {
-                yes(c.getSimpleName() + "." + m.getName() + " bears no public name", !names.contains(m.getName()));
-                yes(m.getName() + " takes at most seven", m.getParameterCount() <= 7);
+                Check.yes(c.getSimpleName() + "." + m.getName() + " bears no public name", !names.contains(m.getName()));
+                Check.yes(m.getName() + " takes at most seven", m.getParameterCount() <= 7);
             }
         }
-        yes("one public constructor", OatFerry.class.getConstructors().length == 1
+        Check.yes("one public constructor", OatFerry.class.getConstructors().length == 1
                 && OatFerry.class.getDeclaredConstructors().length == 1);
     }
 
     private static void fieldsAndClasses() {
-        yes("final", Modifier.isFinal(OatFerry.class.getModifiers()));
-        yes("at most twelve classes", OatFerry.class.getDeclaredClasses().length < 12);
+        Check.yes("final", Modifier.isFinal(OatFerry.class.getModifiers()));
+        Check.yes("at most twelve classes", OatFerry.class.getDeclaredClasses().length < 12);
         fields(OatFerry.class);
         for (Class<?> c : OatFerry.class.getDeclaredClasses()) {
-            yes(c.getSimpleName() + " is static", Modifier.isStatic(c.getModifiers()));
+            Check.yes(c.getSimpleName() + " is static", Modifier.isStatic(c.getModifiers()));
             fields(c);
         }
     }
@@ -79,30 +75,30 @@ public final class FaceTest {
         int own = 0;
         for (Field f : c.getDeclaredFields()) {
             if (Modifier.isStatic(f.getModifiers())) {
-                yes(f.getName() + " is final", Modifier.isFinal(f.getModifiers()));
+                Check.yes(f.getName() + " is final", Modifier.isFinal(f.getModifiers()));
             } else {
                 own++;
             }
         }
-        yes(c.getSimpleName() + " has at most twenty fields", own <= 20);
+        Check.yes(c.getSimpleName() + " has at most twenty fields", own <= 20);
     }
 
     private static void source(String source) {
         String code = source.replaceAll("(?s)/\\*.*?\\*/", "").replaceAll("//[^\n]*", "").replaceAll("\"[^\"\n]*\"", "\"\"");
         for (String word : List.of("throw", "throws", "try", "catch", "finally", "synchronized", "assert", "package",
                 "protected", "native", "volatile", "System.out", "Exact", "Random", "Thread", "nanoTime", "currentTimeMillis")) {
-            yes("no '" + word + "'", !Pattern.compile("\\b" + Pattern.quote(word) + "\\b").matcher(code).find());
+            Check.yes("no '" + word + "'", !Pattern.compile("\\b" + Pattern.quote(word) + "\\b").matcher(code).find());
         }
-        yes("no lambda", !code.contains("->"));
-        yes("no method reference", !code.contains("::"));
-        yes("no joining of texts by +", !code.contains("\" +") && !code.contains("+ \""));
+        Check.yes("no lambda", !code.contains("->"));
+        Check.yes("no method reference", !code.contains("::"));
+        Check.yes("no joining of texts by +", !code.contains("\" +") && !code.contains("+ \""));
         Matcher imports = Pattern.compile("(?m)^import (.*);").matcher(code);
         while (imports.find()) {
-            yes("import " + imports.group(1), List.of("java.util.Arrays", "java.util.ArrayList", "java.util.List").contains(imports.group(1)));
+            Check.yes("import " + imports.group(1), List.of("java.util.Arrays", "java.util.ArrayList", "java.util.List").contains(imports.group(1)));
         }
         for (int i = 0; i < source.length(); i++) {
             if (source.charAt(i) > 126) {
-                yes("sign " + i + " of the source is 1 to 126", false);
+                Check.yes("sign " + i + " of the source is 1 to 126", false);
             }
         }
         methodLengths(source.split("\n"));
@@ -118,7 +114,7 @@ public final class FaceTest {
                 from = i;
                 indent = open.group(1);
             } else if (from >= 0 && lines[i].equals(indent + "}")) {
-                yes("method at line " + (from + 1) + " has " + (i - from + 1) + " lines", i - from + 1 <= 60);
+                Check.yes("method at line " + (from + 1) + " has " + (i - from + 1) + " lines", i - from + 1 <= 60);
                 from = -1;
             }
         }

@@ -52,13 +52,6 @@ public final class FerryTest {
         Check.due("at 0", x.fault(), 0);
     }
 
-    private static void good(String text, int places) {
-        OatFerry x = new OatFerry();
-        Check.feed(x, text);
-        Check.due("ferry() of '" + text + "'", x.ferry(), places);
-        Check.due("fault() of '" + text + "'", x.fault(), -1);
-    }
-
     private static void bad(String text, int fault, int where) {
         OatFerry x = new OatFerry();
         Check.feed(x, text);
@@ -67,15 +60,15 @@ public final class FerryTest {
     }
 
     private static void goodTexts() {
-        good("", 0);
-        good("   ", 0);
-        good("belt slowest 3 999;", 3);
-        good("  belt  sum1 1 ;  ", 1);
-        good("belt sum 001 099;", 1);
-        good(BELT + "horse30 200 60;horse 1 1 0;blind1;blind 0;beside 0 1 10;beside 1 0 0;", 2);
-        good(BELT + "tide 0 , 40,20,1,2,3,4,5,6,7,8,9;cart 0;cart 60;cart 1;cart 2;due 120;", 2);
-        good("belt sum 2 1;due 1;", 2);
-        good(BELT + "horse 1 1 1;".repeat(6), 2);
+        Check.good("", 0);
+        Check.good("   ", 0);
+        Check.good("belt slowest 3 999;", 3);
+        Check.good("  belt  sum1 1 ;  ", 1);
+        Check.good("belt sum 001 099;", 1);
+        Check.good(BELT + "horse30 200 60;horse 1 1 0;blind1;blind 0;beside 0 1 10;beside 1 0 0;", 2);
+        Check.good(BELT + "tide 0 , 40,20,1,2,3,4,5,6,7,8,9;cart 0;cart 60;cart 1;cart 2;due 120;", 2);
+        Check.good("belt sum 2 1;due 1;", 2);
+        Check.good(BELT + "horse 1 1 1;".repeat(6), 2);
     }
 
     private static void faultsOne() {
@@ -155,7 +148,7 @@ public final class FerryTest {
         for (int i = 0; i < 12; i++) {
             many.append("beside ").append(i / 3).append(' ').append(i / 3 == i % 3 ? 5 : i % 3).append(" 5;");
         }
-        good(many.toString(), 2);
+        Check.good(many.toString(), 2);
         bad(many + "beside 0 0 0;", 3, many.length());
     }
 

@@ -5,6 +5,8 @@ public final class ModelTest {
     private static final int RUNS = 900;
     private static final int TEXTS = 60000;
     private static final int NOBODY = -1;
+    /** Of an object's 512 calls: behind these, one turn more of drawn calls still fits. */
+    private static final int CALLS = 400;
     private static final int[] ODD = {-1, -2, -3, 0, 1, 2, 3, 4, 5, 6, 7, 8, 9, 10, 12, 13, 99, 100, 120, 121, 240, 241,
         Integer.MAX_VALUE, Integer.MIN_VALUE};
 
@@ -14,6 +16,7 @@ public final class ModelTest {
     private String name;
     private int shirker;
     private int shirkerPull;
+    private int asked = 0;
 
     private ModelTest(long seed) {
         random = new Random(seed);
@@ -30,8 +33,8 @@ public final class ModelTest {
 
     /** Texts with one byte or two changed: the faults of both must be the same. */
     private static void texts() {
-        ModelTest t = new ModelTest(12345);
         for (int i = 0; i < TEXTS; i++) {
+            ModelTest t = new ModelTest(12345L * i);
             StringBuilder text = new StringBuilder(t.text());
             int changes = t.random.nextInt(3);
             for (int c = 0; c < changes; c++) {
@@ -69,6 +72,7 @@ public final class ModelTest {
     }
 
     private void due(String call, int got, int want) {
+        asked++;
         Check.due(name + ": " + call, got, want);
     }
 
@@ -162,7 +166,7 @@ public final class ModelTest {
     }
 
     private void run() {
-        for (int i = 0; i < 110; i++) {
+        for (int i = 0; i < 110 && asked < CALLS; i++) {
             if (i == 3 || random.nextInt(60) == 0) {
                 String text = text();
                 name = name.replaceAll(" '.*", "") + " '" + text + "'";

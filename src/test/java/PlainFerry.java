@@ -394,7 +394,7 @@ final class PlainFerry {
             return NOT;
         }
         Outcome o = crossing(stands, strengths, hour, load);
-        oats += o.oats;
+        oats = Math.min(999999999, oats + o.oats);
         missed += o.over() ? 0 : 1;
         strengths = behind(stands, o);
         hour++;
