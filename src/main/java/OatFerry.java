@@ -22,7 +22,8 @@ public final class OatFerry {
     private static final int UNTOLD_DUE = 60;
     private static final int SUM = 0;
     private static final int SLOWEST = 1;
-    private static final int ASK_OATS = -2;
+    /** In a PLACE's stead: what decides second, the OATS of SOONEST, the minutes of CHEAPEST. */
+    private static final int ASK_SECOND = -2;
 
     private final Boat boat;
     private final Boat draft;
@@ -277,7 +278,7 @@ public final class OatFerry {
     // ---- tried
 
     public int soonest(int load, int p) {
-        if (p != NONE && p != ASK_OATS && !boat.hasPlace(p)) {
+        if (p != NONE && p != ASK_SECOND && !boat.hasPlace(p)) {
             return UNKNOWN;
         }
         if (isNoLoad(load)) {
@@ -289,11 +290,11 @@ public final class OatFerry {
         if (p == NONE) {
             return trials.minutes;
         }
-        return p == ASK_OATS ? trials.oats : crews.horseAt(trials.crew, p);
+        return p == ASK_SECOND ? trials.oats : crews.horseAt(trials.crew, p);
     }
 
     public int cheapest(int load, int p) {
-        if (p != NONE && p != ASK_OATS && !boat.hasPlace(p)) {
+        if (p != NONE && p != ASK_SECOND && !boat.hasPlace(p)) {
             return UNKNOWN;
         }
         if (isNoLoad(load)) {
@@ -305,7 +306,7 @@ public final class OatFerry {
         if (p == NONE) {
             return trials.oats;
         }
-        return p == ASK_OATS ? trials.minutes : crews.horseAt(trials.crew, p);
+        return p == ASK_SECOND ? trials.minutes : crews.horseAt(trials.crew, p);
     }
 
     public int twice(int load, int k, int p) {
